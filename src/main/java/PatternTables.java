@@ -12,6 +12,7 @@ public final class PatternTables {
 
     // The subject is kept as one more list behind the patterns, so that one
     // walk serves a pattern laid on the subject and one laid on a pattern.
+    // Hence the cells: four times nine for the patterns, then 25.
     private static final int SUBJECT = 4;
     private static final int LISTS = 5;
     private static final int CELLS = 61;
