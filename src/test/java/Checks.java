@@ -2,27 +2,35 @@
 final class Checks {
     private int wrong = 0;
     private int asked = 0;
+    private int sentences = 0;
     private String topic = "";
 
     void topic(String name) {
         topic = name;
     }
 
+    /** A sentence of the document and the test of its own, which must look at an answer. */
+    void sentence(String words, Runnable test) {
+        topic(words);
+        sentences++;
+        int before = asked;
+        test.run();
+        due("some answer was looked at", true, asked > before);
+    }
+
     void due(String call, int want, int got) {
-        asked++;
-        if (got != want) {
-            tell(call, Integer.toString(want), Integer.toString(got));
-        }
+        due(call, Integer.toString(want), Integer.toString(got));
     }
 
     void due(String call, boolean want, boolean got) {
-        asked++;
-        if (got != want) {
-            tell(call, Boolean.toString(want), Boolean.toString(got));
-        }
+        due(call, Boolean.toString(want), Boolean.toString(got));
     }
 
-    private void tell(String call, String want, String got) {
+    void due(String call, String want, String got) {
+        asked++;
+        if (got.equals(want)) {
+            return;
+        }
         wrong++;
         if (wrong <= 50) {
             System.out.println(topic + ": " + call + " answered " + got + ", due is " + want);
@@ -30,7 +38,8 @@ final class Checks {
     }
 
     void end() {
-        System.out.println(asked + " answers looked at, " + wrong + " not as due");
+        String of = sentences == 0 ? "" : sentences + " sentences, ";
+        System.out.println(of + asked + " answers looked at, " + wrong + " not as due");
         if (wrong != 0 || asked == 0) {
             System.exit(1);
         }

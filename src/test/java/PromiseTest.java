@@ -2,11 +2,10 @@
 public final class PromiseTest {
     private static final int NONE = -1;
     private static final int FULL = -2;
-    private static final int LEAST = Integer.MIN_VALUE;
-    private static final int MOST = Integer.MAX_VALUE;
-    private static final int[] NO_PATTERN = {-1, 4, 5, 32, LEAST, MOST};
-    private static final int[] NO_NODE = {-1, -25, 25, 61, LEAST, MOST};
+    private static final int LEAST = Tables.LEAST;
+    private static final int MOST = Tables.MOST;
     private static final Checks checks = new Checks();
+    private static final Tables make = new Tables(checks);
 
     public static void main(String[] args) {
         newObject();
@@ -30,32 +29,14 @@ public final class PromiseTest {
         checks.end();
     }
 
-    private static void pattern(PatternTables x, int p, int... tokens) {
-        for (int i = 0; i < tokens.length; i++) {
-            checks.due("extend(" + p + ", " + tokens[i] + ")", i + 1, x.extend(p, tokens[i]));
-        }
-    }
-
-    private static void subject(PatternTables x, int... ops) {
-        for (int i = 0; i < ops.length; i++) {
-            checks.due("grow(" + ops[i] + ")", i + 1, x.grow(ops[i]));
-        }
-    }
-
-    private static int[] repeat(int value, int times) {
-        int[] list = new int[times];
-        java.util.Arrays.fill(list, value);
-        return list;
-    }
-
     /** The subject 0 (2 4) (1 (2 4) 5) under the patterns 0 _ _, 2 _, 1 (2 4) _ and 2 4. */
     private static PatternTables sample() {
         PatternTables x = new PatternTables();
-        pattern(x, 0, 0, 7, 7);
-        pattern(x, 1, 2, 7);
-        pattern(x, 2, 1, 2, 4, 7);
-        pattern(x, 3, 2, 4);
-        subject(x, 0, 2, 4, 1, 2, 4, 5);
+        make.pattern(x, 0, 0, 7, 7);
+        make.pattern(x, 1, 2, 7);
+        make.pattern(x, 2, 1, 2, 4, 7);
+        make.pattern(x, 3, 2, 4);
+        make.subject(x, 0, 2, 4, 1, 2, 4, 5);
         return x;
     }
 
@@ -89,7 +70,7 @@ public final class PromiseTest {
         checks.topic("promise 2");
         for (int p = 0; p < 4; p++) {
             PatternTables x = new PatternTables();
-            pattern(x, p, 0, 2, 4, 1, 3, 7, 5);
+            make.pattern(x, p, 0, 2, 4, 1, 3, 7, 5);
             for (int token = 0; token < 8; token++) {
                 checks.due("extend of a complete one", FULL, x.extend(p, token));
             }
@@ -102,18 +83,18 @@ public final class PromiseTest {
             checks.due("second token", token < 4 ? 2 : FULL, x.extend(2, 7));
         }
         PatternTables deep = new PatternTables();
-        pattern(deep, 3, repeat(2, 9));
+        make.pattern(deep, 3, Tables.repeat(2, 9));
         checks.due("extend of nine", FULL, deep.extend(3, 4));
         checks.due("complete(3)", false, deep.complete(3));
         PatternTables wide = new PatternTables();
-        pattern(wide, 0, 0, 0, 0, 0, 7, 7, 7, 7, 7);
+        make.pattern(wide, 0, 0, 0, 0, 0, 7, 7, 7, 7, 7);
         checks.due("complete(0)", true, wide.complete(0));
         checks.due("extend of nine, complete", FULL, wide.extend(0, 7));
         PatternTables x = new PatternTables();
-        for (int p : NO_PATTERN) {
+        for (int p : Tables.NO_PATTERN) {
             checks.due("extend(" + p + ", 4)", NONE, x.extend(p, 4));
         }
-        for (int token : new int[] {-1, 8, 9, LEAST, MOST}) {
+        for (int token : Tables.NO_TOKEN) {
             checks.due("extend(0, " + token + ")", NONE, x.extend(0, token));
         }
         checks.due("nothing appended", 1, x.extend(0, 0));
@@ -125,7 +106,7 @@ public final class PromiseTest {
         int[] tokens = {0, 1, 2, 3, 4, 5, 0, 6, 7};
         for (int p = 0; p < 4; p++) {
             PatternTables x = new PatternTables();
-            pattern(x, p, tokens);
+            make.pattern(x, p, tokens);
             for (int i = tokens.length - 1; i >= 0; i--) {
                 checks.due("shorten(" + p + ")", tokens[i], x.shorten(p));
                 checks.due("complete(" + p + ")", false, x.complete(p));
@@ -135,10 +116,10 @@ public final class PromiseTest {
             checks.due("complete after it", true, x.complete(p));
         }
         PatternTables x = new PatternTables();
-        pattern(x, 0, 4);
-        pattern(x, 3, 5);
-        subject(x, 6);
-        for (int p : NO_PATTERN) {
+        make.pattern(x, 0, 4);
+        make.pattern(x, 3, 5);
+        make.subject(x, 6);
+        for (int p : Tables.NO_PATTERN) {
             checks.due("shorten(" + p + ")", NONE, x.shorten(p));
         }
         checks.due("shorten(1), empty", NONE, x.shorten(1));
@@ -155,7 +136,7 @@ public final class PromiseTest {
             checks.due("second operator", op < 4 ? 2 : FULL, x.grow(6));
         }
         PatternTables deep = new PatternTables();
-        subject(deep, repeat(3, 25));
+        make.subject(deep, Tables.repeat(3, 25));
         checks.due("grow of 25", FULL, deep.grow(4));
         checks.due("whole()", false, deep.whole());
         checks.due("prune()", 3, deep.prune());
@@ -163,7 +144,7 @@ public final class PromiseTest {
         checks.due("whole()", true, deep.whole());
         checks.due("grow of 25, complete", FULL, deep.grow(4));
         PatternTables x = new PatternTables();
-        for (int op : new int[] {-1, 7, 8, LEAST, MOST}) {
+        for (int op : Tables.NO_OPERATOR) {
             checks.due("grow(" + op + ")", NONE, x.grow(op));
         }
         checks.due("nothing appended", NONE, x.prune());
@@ -173,8 +154,8 @@ public final class PromiseTest {
         checks.topic("promise 5");
         int[] ops = {0, 1, 2, 3, 4, 5, 6};
         PatternTables x = new PatternTables();
-        pattern(x, 3, 5);
-        subject(x, ops);
+        make.pattern(x, 3, 5);
+        make.subject(x, ops);
         for (int i = ops.length - 1; i >= 0; i--) {
             checks.due("prune()", ops[i], x.prune());
             checks.due("whole()", false, x.whole());
@@ -200,10 +181,10 @@ public final class PromiseTest {
         }
         PatternTables x = new PatternTables();
         for (int p = 0; p < 4; p++) {
-            pattern(x, p, 7);
+            make.pattern(x, p, 7);
         }
-        subject(x, 4);
-        for (int p : NO_PATTERN) {
+        make.subject(x, 4);
+        for (int p : Tables.NO_PATTERN) {
             checks.due("complete(" + p + ")", false, x.complete(p));
         }
     }
@@ -218,7 +199,7 @@ public final class PromiseTest {
         }
         checks.due("whole()", true, x.whole());
         PatternTables other = new PatternTables();
-        pattern(other, 3, 7);
+        make.pattern(other, 3, 7);
         checks.due("whole() beside a pattern", false, other.whole());
     }
 
@@ -240,32 +221,32 @@ public final class PromiseTest {
 
         PatternTables all = new PatternTables();
         for (int p = 0; p < 4; p++) {
-            pattern(all, p, 7);
+            make.pattern(all, p, 7);
         }
-        subject(all, 0, 4, 5);
+        make.subject(all, 0, 4, 5);
         for (int n = 0; n < 3; n++) {
             checks.due("fitsAt(" + n + "), all gaps", 15, all.fitsAt(n));
         }
         checks.due("fitsAt(3)", 0, all.fitsAt(3));
-        for (int n : NO_NODE) {
+        for (int n : Tables.NO_NODE) {
             checks.due("fitsAt(" + n + ")", 0, all.fitsAt(n));
         }
 
         PatternTables skip = new PatternTables();
-        pattern(skip, 0, 0, 7, 4);
-        pattern(skip, 1, 0, 7, 7);
-        pattern(skip, 2, 0, 1, 7, 7, 4);
-        pattern(skip, 3, 0, 4, 7);
-        subject(skip, 0, 1, 2, 5, 0, 4, 4, 4);
+        make.pattern(skip, 0, 0, 7, 4);
+        make.pattern(skip, 1, 0, 7, 7);
+        make.pattern(skip, 2, 0, 1, 7, 7, 4);
+        make.pattern(skip, 3, 0, 4, 7);
+        make.subject(skip, 0, 1, 2, 5, 0, 4, 4, 4);
         checks.due("a gap skips a deep part", 7, skip.fitsAt(0));
         checks.due("the inner part", 11, skip.fitsAt(4));
 
         PatternTables lone = new PatternTables();
-        pattern(lone, 0, 4);
-        pattern(lone, 1, 5);
-        pattern(lone, 2, 6);
-        pattern(lone, 3, 3, 7);
-        subject(lone, 5);
+        make.pattern(lone, 0, 4);
+        make.pattern(lone, 1, 5);
+        make.pattern(lone, 2, 6);
+        make.pattern(lone, 3, 3, 7);
+        make.subject(lone, 5);
         checks.due("operators without parts differ", 2, lone.fitsAt(0));
     }
 
@@ -276,7 +257,7 @@ public final class PromiseTest {
         for (int p = 0; p < 4; p++) {
             checks.due("count(" + p + ")", due[p], x.count(p));
         }
-        for (int p : NO_PATTERN) {
+        for (int p : Tables.NO_PATTERN) {
             checks.due("count(" + p + ")", 0, x.count(p));
         }
         x.prune();
@@ -284,12 +265,12 @@ public final class PromiseTest {
             checks.due("count(" + p + "), subject not complete", 0, x.count(p));
         }
         PatternTables most = new PatternTables();
-        pattern(most, 3, 7);
-        subject(most, repeat(2, 24));
+        make.pattern(most, 3, 7);
+        make.subject(most, Tables.repeat(2, 24));
         checks.due("grow(6)", 25, most.grow(6));
         checks.due("count of a gap", 25, most.count(3));
         checks.due("count of an empty pattern", 0, most.count(0));
-        pattern(most, 0, 2, 2, 2, 2, 2, 2, 2, 2, 7);
+        make.pattern(most, 0, 2, 2, 2, 2, 2, 2, 2, 2, 7);
         checks.due("count of overlapping places", 17, most.count(0));
         checks.due("shorten", 7, most.shorten(0));
         checks.due("count, pattern not complete", 0, most.count(0));
@@ -309,14 +290,14 @@ public final class PromiseTest {
         checks.due("next(0, -9)", 0, x.next(0, -9));
         checks.due("next(0, 1)", NONE, x.next(0, 1));
         checks.due("next(2, 0)", 3, x.next(2, 0));
-        for (int p : NO_PATTERN) {
+        for (int p : Tables.NO_PATTERN) {
             checks.due("next(" + p + ", 0)", NONE, x.next(p, 0));
         }
         x.prune();
         checks.due("next, subject not complete", NONE, x.next(3, 0));
         PatternTables last = new PatternTables();
-        pattern(last, 1, 6);
-        subject(last, repeat(2, 24));
+        make.pattern(last, 1, 6);
+        make.subject(last, Tables.repeat(2, 24));
         last.grow(6);
         checks.due("next(1, 0), the last node", 24, last.next(1, 0));
         checks.due("next(1, 24)", 24, last.next(1, 24));
@@ -338,25 +319,25 @@ public final class PromiseTest {
         checks.due("gapAt(2, 3, 0)", 6, x.gapAt(2, 3, 0));
         checks.due("gapAt(2, 3, 1)", NONE, x.gapAt(2, 3, 1));
         checks.due("gapAt(3, 1, 0), no gap", NONE, x.gapAt(3, 1, 0));
-        for (int p : NO_PATTERN) {
+        for (int p : Tables.NO_PATTERN) {
             checks.due("gapAt(" + p + ", 0, 0)", NONE, x.gapAt(p, 0, 0));
         }
-        for (int n : NO_NODE) {
+        for (int n : Tables.NO_NODE) {
             checks.due("gapAt(0, " + n + ", 0)", NONE, x.gapAt(0, n, 0));
         }
         x.prune();
         checks.due("gapAt, subject not complete", NONE, x.gapAt(1, 1, 0));
 
         PatternTables wide = new PatternTables();
-        pattern(wide, 3, 0, 0, 0, 0, 7, 7, 7, 7, 7);
-        subject(wide, 2, 0, 0, 0, 0, 2, 4, 1, 5, 6, 4, 3, 3, 3, 5, 4);
+        make.pattern(wide, 3, 0, 0, 0, 0, 7, 7, 7, 7, 7);
+        make.subject(wide, 2, 0, 0, 0, 0, 2, 4, 1, 5, 6, 4, 3, 3, 3, 5, 4);
         int[] places = {5, 7, 10, 11, 15};
         for (int k = 0; k < places.length; k++) {
             checks.due("gapAt(3, 1, " + k + ")", places[k], wide.gapAt(3, 1, k));
         }
         checks.due("gapAt(3, 1, 5)", NONE, wide.gapAt(3, 1, 5));
         checks.due("gapAt(3, 2, 0)", NONE, wide.gapAt(3, 2, 0));
-        pattern(wide, 0, 7);
+        make.pattern(wide, 0, 7);
         for (int n = 0; n < 16; n++) {
             checks.due("gapAt(0, " + n + ", 0)", n, wide.gapAt(0, n, 0));
         }
@@ -371,7 +352,7 @@ public final class PromiseTest {
             checks.due("size(" + n + ")", due[n], x.size(n));
         }
         checks.due("size(7)", NONE, x.size(7));
-        for (int n : NO_NODE) {
+        for (int n : Tables.NO_NODE) {
             checks.due("size(" + n + ")", NONE, x.size(n));
         }
         x.prune();
@@ -379,7 +360,7 @@ public final class PromiseTest {
             checks.due("size(" + n + "), subject not complete", NONE, x.size(n));
         }
         PatternTables most = new PatternTables();
-        subject(most, repeat(3, 24));
+        make.subject(most, Tables.repeat(3, 24));
         most.grow(5);
         for (int n = 0; n < 25; n++) {
             checks.due("size(" + n + ")", 25 - n, most.size(n));
@@ -396,7 +377,7 @@ public final class PromiseTest {
             }
         }
         checks.due("equal(7, 7)", false, x.equal(7, 7));
-        for (int n : NO_NODE) {
+        for (int n : Tables.NO_NODE) {
             checks.due("equal(" + n + ", 0)", false, x.equal(n, 0));
             checks.due("equal(0, " + n + ")", false, x.equal(0, n));
             checks.due("equal(" + n + ", " + n + ")", false, x.equal(n, n));
@@ -405,14 +386,14 @@ public final class PromiseTest {
         checks.due("equal(1, 1), subject not complete", false, x.equal(1, 1));
         checks.due("equal(1, 4), subject not complete", false, x.equal(1, 4));
         PatternTables near = new PatternTables();
-        subject(near, 0, 0, 4, 5, 0, 4, 6);
+        make.subject(near, 0, 0, 4, 5, 0, 4, 6);
         checks.due("parts that differ at their end", false, near.equal(1, 4));
         checks.due("the same operator", true, near.equal(2, 5));
         PatternTables head = new PatternTables();
-        subject(head, 0, 0, 4, 5, 1, 4, 5);
+        make.subject(head, 0, 0, 4, 5, 1, 4, 5);
         checks.due("parts that differ at their head", false, head.equal(1, 4));
         PatternTables shape = new PatternTables();
-        subject(shape, 1, 2, 4, 2, 2, 4);
+        make.subject(shape, 1, 2, 4, 2, 2, 4);
         checks.due("parts of different size", false, shape.equal(1, 3));
         checks.due("the inner part", true, shape.equal(1, 4));
     }
@@ -424,21 +405,21 @@ public final class PromiseTest {
         x.prune();
         checks.due("kinds(), subject not complete", 0, x.kinds());
         PatternTables bare = new PatternTables();
-        subject(bare, 0, 4, 5);
+        make.subject(bare, 0, 4, 5);
         checks.due("the empty set alone", 1, bare.kinds());
-        pattern(bare, 0, 4);
+        make.pattern(bare, 0, 4);
         checks.due("the empty set and another", 2, bare.kinds());
-        pattern(bare, 1, 7);
+        make.pattern(bare, 1, 7);
         checks.due("no empty set", 2, bare.kinds());
-        pattern(bare, 2, 5);
+        make.pattern(bare, 2, 5);
         checks.due("three sets", 3, bare.kinds());
 
         PatternTables many = new PatternTables();
-        pattern(many, 0, 0, 7, 7);
-        pattern(many, 1, 0, 4, 7);
-        pattern(many, 2, 0, 7, 4);
-        pattern(many, 3, 7);
-        subject(many, 0, 0, 4, 0, 5, 4, 0, 5, 0, 4, 4);
+        make.pattern(many, 0, 0, 7, 7);
+        make.pattern(many, 1, 0, 4, 7);
+        make.pattern(many, 2, 0, 7, 4);
+        make.pattern(many, 3, 7);
+        make.subject(many, 0, 0, 4, 0, 5, 4, 0, 5, 0, 4, 4);
         checks.due("sets that all have the highest bit", 5, many.kinds());
         many.shorten(3);
         checks.due("the same without it", 5, many.kinds());
@@ -447,10 +428,10 @@ public final class PromiseTest {
     private static void covers() {
         checks.topic("promise 15");
         PatternTables x = new PatternTables();
-        pattern(x, 0, 7);
-        pattern(x, 1, 0, 7, 4);
-        pattern(x, 2, 0, 2, 7, 4);
-        pattern(x, 3, 0, 2, 7, 7);
+        make.pattern(x, 0, 7);
+        make.pattern(x, 1, 0, 7, 4);
+        make.pattern(x, 2, 0, 2, 7, 4);
+        make.pattern(x, 3, 0, 2, 7, 7);
         boolean[] due = {
             true, true, true, true,
             false, true, true, false,
@@ -461,12 +442,12 @@ public final class PromiseTest {
             for (int q = 0; q < 4; q++) {
                 checks.due("covers(" + p + ", " + q + ")", due[4 * p + q], x.covers(p, q));
             }
-            for (int q : NO_PATTERN) {
+            for (int q : Tables.NO_PATTERN) {
                 checks.due("covers(" + p + ", " + q + ")", false, x.covers(p, q));
                 checks.due("covers(" + q + ", " + p + ")", false, x.covers(q, p));
             }
         }
-        subject(x, 0, 2, 4, 4);
+        make.subject(x, 0, 2, 4, 4);
         checks.due("covers(0, 4) beside a whole subject", false, x.covers(0, 4));
         checks.due("covers(4, 4) beside a whole subject", false, x.covers(4, 4));
         x.shorten(2);
@@ -478,9 +459,9 @@ public final class PromiseTest {
         checks.due("q empty", false, x.covers(1, 0));
         checks.due("both empty", false, x.covers(0, 0));
         PatternTables y = new PatternTables();
-        pattern(y, 0, 1, 7, 5);
-        pattern(y, 1, 1, 0, 2, 7, 7, 5);
-        pattern(y, 2, 1, 0, 2, 7, 7, 6);
+        make.pattern(y, 0, 1, 7, 5);
+        make.pattern(y, 1, 1, 0, 2, 7, 7, 5);
+        make.pattern(y, 2, 1, 0, 2, 7, 7, 6);
         checks.due("a gap over a part with gaps", true, y.covers(0, 1));
         checks.due("the end differs", false, y.covers(0, 2));
         checks.due("the other way", false, y.covers(1, 0));
@@ -497,19 +478,19 @@ public final class PromiseTest {
         x.grow(6);
         checks.due("bare()", 4, x.bare());
         PatternTables none = new PatternTables();
-        subject(none, repeat(2, 24));
+        make.subject(none, Tables.repeat(2, 24));
         none.grow(4);
         checks.due("no pattern at all", 25, none.bare());
-        pattern(none, 3, 7);
+        make.pattern(none, 3, 7);
         checks.due("a gap fits everywhere", 0, none.bare());
     }
 
     private static void orderAndLimits() {
         checks.topic("promise 17");
         PatternTables x = new PatternTables();
-        pattern(x, 0, 4);
-        pattern(x, 1, repeat(0, 9));
-        subject(x, 5);
+        make.pattern(x, 0, 4);
+        make.pattern(x, 1, Tables.repeat(0, 9));
+        make.subject(x, 5);
         for (int p = 0; p < 2; p++) {
             checks.due("extend(" + p + ", 8) before FULL", NONE, x.extend(p, 8));
             checks.due("extend(" + p + ", -1) before FULL", NONE, x.extend(p, -1));
@@ -519,7 +500,7 @@ public final class PromiseTest {
         checks.due("grow(-1) before FULL", NONE, x.grow(-1));
         checks.due("grow(4)", FULL, x.grow(4));
         PatternTables deep = new PatternTables();
-        subject(deep, repeat(2, 25));
+        make.subject(deep, Tables.repeat(2, 25));
         checks.due("grow(7) of 25 before FULL", NONE, deep.grow(7));
         checks.due("grow(6) of 25", FULL, deep.grow(6));
         checks.due("refused grow left it", 2, deep.prune());
@@ -539,8 +520,8 @@ public final class PromiseTest {
         checks.topic("two objects");
         PatternTables x = new PatternTables();
         PatternTables y = new PatternTables();
-        pattern(x, 0, 7);
-        subject(x, 4);
+        make.pattern(x, 0, 7);
+        make.subject(x, 4);
         checks.due("complete(0) of the other", false, y.complete(0));
         checks.due("whole() of the other", false, y.whole());
     }
