@@ -268,25 +268,24 @@ public final class ListBoundaryTest {
 
     private static void extendOfComplete() {
         for (int[] tokens : COMPLETE_PATTERNS) {
-            PatternTables x = make.four(Tables.EMPTY, tokens);
-            for (int p = 0; p < 4; p++) {
-                for (int token = 0; token < 8; token++) {
-                    checks.due("extend(" + p + ", " + token + ")", FULL, x.extend(p, token));
-                }
-                takeBack(x, p, tokens);
-            }
+            takesNoMore(tokens, true);
         }
     }
 
     private static void extendOfNine() {
         for (int[] tokens : OPEN_NINES) {
-            PatternTables x = make.four(Tables.EMPTY, tokens);
-            for (int p = 0; p < 4; p++) {
-                for (int token = 0; token < 8; token++) {
-                    checks.due("extend(" + p + ", " + token + ")", FULL, x.extend(p, token));
-                }
-                takeBack(x, p, tokens);
+            takesNoMore(tokens, false);
+        }
+    }
+
+    private static void takesNoMore(int[] tokens, boolean complete) {
+        PatternTables x = make.four(Tables.EMPTY, tokens);
+        for (int p = 0; p < 4; p++) {
+            for (int token = 0; token < 8; token++) {
+                checks.due("extend(" + p + ", " + token + ")", FULL, x.extend(p, token));
             }
+            checks.due("complete(" + p + ") after it", complete, x.complete(p));
+            takeBack(x, p, tokens);
         }
     }
 
@@ -376,24 +375,23 @@ public final class ListBoundaryTest {
 
     private static void growOfComplete() {
         for (int[] ops : COMPLETE_SUBJECTS) {
-            PatternTables x = make.table(ops);
-            for (int op = 0; op < 7; op++) {
-                checks.due("grow(" + op + ")", FULL, x.grow(op));
-            }
-            checks.due("whole() after it", true, x.whole());
-            pruneBack(x, ops);
+            growsNoMore(ops, true);
         }
     }
 
     private static void growOf25() {
         for (int[] ops : OPEN_25S) {
-            PatternTables x = make.table(ops);
-            for (int op = 0; op < 7; op++) {
-                checks.due("grow(" + op + ")", FULL, x.grow(op));
-            }
-            checks.due("whole() after it", false, x.whole());
-            pruneBack(x, ops);
+            growsNoMore(ops, false);
         }
+    }
+
+    private static void growsNoMore(int[] ops, boolean whole) {
+        PatternTables x = make.table(ops);
+        for (int op = 0; op < 7; op++) {
+            checks.due("grow(" + op + ")", FULL, x.grow(op));
+        }
+        checks.due("whole() after it", whole, x.whole());
+        pruneBack(x, ops);
     }
 
     private static void pruneDownToNone() {
